@@ -282,8 +282,14 @@ public final class PromiseTest {
         String[] formulas = {"0", "1", "2", "3", "4", "7 / 3", "7 % 4", "7 / 0 + 2", "7 % 0 + 3", "(0 - 7) / 2 + 5",
             "(0 - 7) % 4 + 5", "8 - 3 - 3", "1 + 1 * 2", "(1 + 0) * 2", "1 < 2 and 2", "2 > 1 or 0", "not 0 + 2",
             "not 3", "speed / 5", "number + 2", "frame + 2", "heard + 3", "2 = 2 + 1", "12 / 2 / 3", "12 / (2 * 3)",
-            "0 or 0", "(2 > 1) + (1 < 2)", "(3 = 3) + (0 or 5) + (5 and 5)"};
-        int[] rates = {1, 1, 2, 3, 3, 2, 3, 2, 3, 2, 2, 2, 3, 2, 1, 1, 1, 1, 2, 2, 2, 3, 1, 2, 2, 1, 2, 3};
+            "0 or 0", "(2 > 1) + (1 < 2)", "(3 = 3) + (0 or 5) + (5 and 5)", "(not 0) + 1", "(not 1) + 2", "(not 5) + 2",
+            "not not 7 + 1", "(not not 7) + 1", "(0 or 0) + 2", "(1 or 0) + 1", "(0 or 1) + 1", "(0 and 1) + 2",
+            "(1 and 0) + 2", "(1 and 1) + 1", "(2 < 2) + 2", "(2 > 2) + 2", "(2 = 3) + 2", "(2 < 3) + 1", "(3 > 2) + 1",
+            "7 % 0 + 2", "1 + 4 / 2", "1 + 5 % 3", "5 - 6 / 2", "(0 or 1 and 0) + 2", "(1 or 1 and 0) + 1",
+            "(not 0 and 0) + 2", "(not (0 and 0)) + 1", "(not 1 = 2) + 1", "(1 = 2 - 1) + 1"};
+        int[] rates = {1, 1, 2, 3, 3, 2, 3, 2, 3, 2, 2, 2, 3, 2, 1, 1, 1, 1, 2, 2, 2, 3, 1, 2, 2, 1, 2, 3,
+            2, 2, 2, 1, 2, 2, 2, 2, 2, 2, 2, 2, 2, 2, 2, 2, 2, 3, 3, 2, 2, 2, 2, 2, 2, 2};
+        Checks.due("as many rates as formulas", rates.length, formulas.length);
         for (int i = 0; i < formulas.length; i++) {
             SlotFleet y = Checks.told("reports " + formulas[i] + ";ship a at 0 0 moves 5 95;");
             Checks.due("rate by " + formulas[i], y.rate(0), rates[i]);
@@ -376,7 +382,18 @@ public final class PromiseTest {
         Checks.due("clashes(-1)", x.clashes(-1), -1);
         Checks.due("nothing was done", x.about(4) + x.about(3) + x.about(8), 0);
         Checks.due("the seed is as it was", x.about(5), 10);
+        // Seed 71: round slot 11 of 30, in frame 2, which are 60 slots, then 11, then its own.
+        Checks.due("next of slot 11 in frame 2", Checks.told("slots 30;wide 0;ship a at 0 0 on 1;").next(0), 72);
+        Checks.due("next behind just 90", Checks.told("slots 30;wide 0;draw " + drawFor(29, 30) + ";ship a at 0 0 on 1;").next(0), 90);
+        Checks.due("next behind 91", Checks.told("slots 29;wide 0;draw " + drawFor(3, 29) + ";ship a at 0 0 on 2;").next(0), -1);
         Checks.due("never in 90", Checks.told("slots 30;ship a at 0 0 on 9;").next(0), -1);
+    }
+
+    /** The least draw by which the first seed asks for this one of so many slots. */
+    private static int drawFor(int slot, int slots) {
+        int draw = 0;
+        while ((draw * 137 + 71) % 1000 % slots != slot) draw++;
+        return draw;
     }
 
     private static void mapsCompared() {
@@ -456,6 +473,12 @@ public final class PromiseTest {
         Checks.due("meet(0, 1, 0): 98 + 97 n is 0 or 1", y.meet(0, 1, 0), 66);
         SlotFleet z = Checks.told("range 1;ship a at 0 0;ship b at 2 0 moves 1 0;");
         Checks.due("meet(0, 1, 0) in 98 frames", z.meet(0, 1, 0), 98);
+        SlotFleet last = Checks.told("range 1;ship a at 98 98;ship b at 0 0 moves 1 0;ship c at 98 99 moves 99 0;");
+        Checks.due("meet(0, 1, 0) never", last.meet(0, 1, 0), -1);
+        Checks.due("part(0, 2)", last.meet(0, 2, 1), 1);
+        SlotFleet edge = Checks.told("range 1;ship a at 0 0;ship b at 1 1 moves 1 0;ship c at 1 0 moves 1 0;");
+        Checks.due("meet(0, 1, 0) in 99 frames", edge.meet(0, 1, 0), 99);
+        Checks.due("part(0, 2) in 1", edge.meet(0, 2, 1), 1);
     }
 
     private static void ownersAndStrangers() {
@@ -475,6 +498,12 @@ public final class PromiseTest {
         x.turn(2);
         Checks.due("strangers(0) without c", x.strangers(0), 2);
         Checks.due("reach(2) without c", x.reach(2), 50);
+        SlotFleet ties = Checks.told("range 10;ship a at 0 0;ship b at 50 0;ship c at 50 8;ship d at 42 0;ship e at 0 8;");
+        Checks.due("reach(0) of like ones", ties.reach(0), 0);
+        Checks.due("reach(1) of like ones", ties.reach(1), 4);
+        ties.turn(0);
+        Checks.due("reach(0) of like ones", ties.reach(0), 1);
+        Checks.due("reach(1) of like ones", ties.reach(1), 2);
     }
 
     private static void oddsOfFading() {
@@ -557,6 +586,17 @@ public final class PromiseTest {
         Checks.due("ask(0, 0, 10)", x.ask(0, 0, 10), -1);
         for (int i = 4; i < 30; i++) Checks.due("seen " + i, x.seen(40, 1, true), i);
         Checks.due("seen 30", x.seen(40, 1, true), -1);
+        SlotFleet zero = Checks.told("range 1;ship a at 0 0;ship b at 5 1;");
+        zero.seen(0, 0, true);
+        Checks.due("only 0 fits", zero.fits(0), 1);
+        Checks.due("the greatest is 0", zero.sure(1, 0), 0);
+        // Only in frame 40 is the other one (up 1 and 40 times 49 is 61, of 100) in range of up 60 at all.
+        SlotFleet late = Checks.told("range 1;ship a at 50 60;ship b at 5 1 moves 0 49;");
+        Checks.due("ask(0, 0, 0)", late.ask(0, 0, 0), 40);
+        Checks.due("ask(0, 1, 0)", late.ask(0, 1, 0), 99);
+        SlotFleet never = Checks.told("range 1;ship a at 50 60;ship b at 5 1;");
+        Checks.due("ask(0, 0, 0) of like ones", never.ask(0, 0, 0), 0);
+        Checks.due("ask(0, 1, 0) of like ones", never.ask(0, 1, 0), 100);
         Checks.due("later(1001)", x.later(1001), -1);
         Checks.due("later(-1)", x.later(-1), -1);
         Checks.due("later(0)", x.later(0), 10);
@@ -591,6 +631,12 @@ public final class PromiseTest {
         Checks.due("back(2) again", x.back(2), 1);
         Checks.due("redo", x.redo(), false);
         Checks.due("slot", x.about(4), 3);
+        Checks.due("image(0)", x.image(0), 1);
+        x.step();
+        Checks.due("back(0)", x.back(0), 1);
+        Checks.due("slot", x.about(4), 3);
+        Checks.tell(x, TWINS);
+        for (int box = 0; box < 3; box++) Checks.due("back behind fleet", x.back(box), -1);
         Checks.due("back(3)", x.back(3), -1);
         Checks.due("back(-1)", x.back(-1), -1);
     }

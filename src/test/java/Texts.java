@@ -22,7 +22,7 @@ final class Texts {
         if (r.nextInt(3) != 0) lines.add("keeps " + (1 + r.nextInt(7)) + ";");
         if (r.nextInt(2) != 0) lines.add("fades " + (r.nextInt(3) == 0 ? r.nextInt(101) : r.nextInt(30)) + ";");
         if (r.nextInt(3) != 0) lines.add("draw " + r.nextInt(1000) + ";");
-        if (r.nextInt(2) != 0) lines.add("reports " + formula(r, 0) + ";");
+        if (r.nextInt(2) != 0) lines.add("reports " + (r.nextInt(3) == 0 ? formula(r, 0) : "2 + (" + formula(r, 0) + ") % 2") + ";");
         Collections.shuffle(lines, r);
         int ships = r.nextInt(10) == 0 ? r.nextInt(3) : 2 + r.nextInt(5);
         for (int i = 0; i < ships; i++) lines.add(r.nextInt(lines.size() + 1), ship(r, "" + (char) ('a' + i)));
