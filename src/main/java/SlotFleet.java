@@ -1149,6 +1149,8 @@ public final class SlotFleet {
         private int orderLength;
 
         void setOrder(Plan plan, int middle, int wide) {
+            orderLength = 0;
+            if (plan.slots < 1) return;
             orderLength = Math.min(2 * wide + 1, plan.slots);
             for (int i = 0; i < orderLength; i++) order[i] = Math.floorMod(middle - wide + i, plan.slots);
         }
@@ -1238,9 +1240,10 @@ public final class SlotFleet {
             int slots = state.plan.slots;
             if (slots < 1 || often < 1) return;
             if (state.owned[ship] > often) state.owned[ship] = often;
+            int apart = slots / often;
             for (int j = state.owned[ship]; j < often; j++) {
                 int first = j == 0 ? state.drawSeed() % slots : state.ownSlot[ship * MOST_OWNED];
-                if (!choice.choose(state, ship, (first + j * slots / often) % slots)) return;
+                if (!choice.choose(state, ship, (first + j * apart) % slots)) return;
                 int at = ship * MOST_OWNED + j;
                 state.ownSlot[at] = choice.slot;
                 state.ownLeft[at] = choice.left;
@@ -1276,10 +1279,10 @@ public final class SlotFleet {
                 if (choice.choose(state, ship, state.slot)) {
                     state.ownSlot[at] = choice.slot;
                     state.ownLeft[at] = choice.left;
+                    state.ownFrom[at] = state.frame + 1;
                 } else {
                     state.ownLeft[at] = state.drawLeft();
                 }
-                state.ownFrom[at] = state.frame + 1;
             }
             toldSlot[ship] = state.ownSlot[at];
             toldLeft[ship] = state.ownLeft[at];

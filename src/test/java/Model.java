@@ -529,7 +529,7 @@ final class Model {
                 while (b.owned.size() > r) b.owned.remove(b.owned.size() - 1);
                 while (b.owned.size() < r) {
                     int first = b.owned.isEmpty() ? draw(s) % n : b.owned.get(0).slot;
-                    List<Integer> c = candidatesOf(s, i, (first + b.owned.size() * n / r) % n, told.get("wide"));
+                    List<Integer> c = candidatesOf(s, i, (first + b.owned.size() * (n / r)) % n, told.get("wide"));
                     if (c.isEmpty()) break;
                     int slot = c.get(draw(s) % c.size());
                     b.owned.add(new Owned(slot, 1 + draw(s) % told.get("keeps"), s.frame));
@@ -545,9 +545,11 @@ final class Model {
                 o.left--;
                 if (o.left == 0) {
                     List<Integer> c = candidatesOf(s, i, s.slot, told.get("wide"));
-                    if (!c.isEmpty()) o.slot = c.get(draw(s) % c.size());
+                    if (!c.isEmpty()) {
+                        o.slot = c.get(draw(s) % c.size());
+                        o.from = s.frame + 1;
+                    }
                     o.left = 1 + draw(s) % told.get("keeps");
-                    o.from = s.frame + 1;
                 }
                 if (draw(s) % 100 < told.get("fades")) faded.add(i);
                 reports.put(i, o);

@@ -18,6 +18,8 @@ public final class PromiseTest {
         keepingAndChoosing();
         crowdedChoice();
         manyReports();
+        furtherSlots();
+        keptSlots();
         acts();
         aheadOfTime();
         mapsCompared();
@@ -310,6 +312,47 @@ public final class PromiseTest {
         Checks.steps(z, 12);
         Checks.due("the last ones go", z.ship(0, 6), 1);
         Checks.due("the first one stays", z.own(0, 0, 0), 11);
+    }
+
+    private static void furtherSlots() {
+        // The quotient is cut first: 8 / 3 is 2, so that they are 0, 2 and 4 behind slot 71 % 8 = 7.
+        SlotFleet x = Checks.told("slots 8;wide 0;reports 3;ship a at 0 0;");
+        Checks.steps(x, 9);
+        int[] ofEight = {7, 1, 3};
+        for (int i = 0; i < 3; i++) Checks.due("8 slots: own(0, " + i + ", 0)", x.own(0, i, 0), ofEight[i]);
+        // Two in frame 1, round 71 % 11 = 5 and 11 / 2 behind it; the third in frame 2, 2 times 11 / 3 behind it.
+        SlotFleet y = Checks.told("slots 11;wide 0;reports 1 + frame;ship a at 0 0;");
+        Checks.steps(y, 12);
+        Checks.due("11 slots: ship(0, 6)", y.ship(0, 6), 2);
+        Checks.steps(y, 11);
+        int[] ofEleven = {5, 10, 0};
+        int[] from = {1, 1, 2};
+        for (int i = 0; i < 3; i++) {
+            Checks.due("11 slots: own(0, " + i + ", 0)", y.own(0, i, 0), ofEleven[i]);
+            Checks.due("11 slots: own(0, " + i + ", 2)", y.own(0, i, 2), from[i]);
+        }
+        // The third one would be 4 behind slot 7, which is the second one already: no more are sought.
+        SlotFleet z = Checks.told("slots 8;wide 0;reports 1 + frame;ship a at 0 0;");
+        Checks.steps(z, 17);
+        Checks.due("8 slots: no third one", z.ship(0, 6), 2);
+        Checks.due("8 slots: own(0, 1, 0)", z.own(0, 1, 0), 3);
+    }
+
+    private static void keptSlots() {
+        SlotFleet x = Checks.told("slots 6;wide 0;keeps 1;ship a at 0 0;ship b at 50 50 on 1;");
+        Checks.steps(x, 12);
+        for (int frame = 2; frame < 6; frame++) {
+            Checks.due("frame at hand", x.about(3), frame);
+            Checks.due("the same slot in frame " + frame, x.own(0, 0, 0), 5);
+            Checks.due("with a new left in frame " + frame, x.own(0, 0, 1), 1);
+            Checks.due("owned as before in frame " + frame, x.own(0, 0, 2), 1);
+            Checks.steps(x, 6);
+            Checks.due("b, a frame later, in frame " + frame, x.own(1, 0, 2), 2);
+        }
+        // With another slot to go to it is owned from the next frame on, as in the shared run.
+        SlotFleet y = Checks.told("slots 6;wide 1;keeps 1;ship a at 0 0;");
+        Checks.steps(y, 12);
+        Checks.due("exchanged in frame 1", y.own(0, 0, 2), 2);
     }
 
     private static void acts() {
