@@ -570,6 +570,13 @@ public final class QueryEdgeTest {
         Checks.due("best() of like ones", x.best(), 0);
         x.turn(0);
         Checks.due("best(): c alone knows one", x.best(), 2);
+        // What b heard is gone from its map behind two frames, the places are not: it knows no more than the others.
+        SlotFleet y = Checks.ran(Ready.TRIO, 12);
+        y.turn(0);
+        y.turn(2);
+        Checks.steps(y, 12);
+        Checks.due("known(1, 0, 0)", y.known(1, 0, 0), 0);
+        Checks.due("best() by the map", y.best(), 0);
         Checks.due("best() of one that is not on", Checks.told("ship a at 0 0 on 9;").best(), 0);
     }
 

@@ -38,6 +38,8 @@ public final class StepEdgeTest {
         furtherSlots();
         ownedFromThisFrameOn();
         ownedFromTheNextFrameOn();
+        leftByAnotherDraw();
+        shipByShip();
         leftIsOneLess();
         fading();
         clashes();
@@ -163,6 +165,14 @@ public final class StepEdgeTest {
         }
         for (int what : new int[] {-1, 2, Integer.MIN_VALUE, Integer.MAX_VALUE}) {
             Checks.due("known(0, 1, " + what + ")", x.known(0, 1, what), -1);
+        }
+        Checks.holds("Terms 2", "and of each other SHIP the PLACE last heard (none, at first)");
+        SlotFleet first = Checks.told(Ready.HELD);
+        for (int ship = 0; ship < 3; ship++) {
+            for (int other = 0; other < 3; other++) {
+                Checks.due("known(" + ship + ", " + other + ", 0) at first", first.known(ship, other, 0), -1);
+                Checks.due("known(" + ship + ", " + other + ", 1) at first", first.known(ship, other, 1), -1);
+            }
         }
         SlotFleet trio = Checks.ran(Ready.TRIO, 24);
         Checks.due("known(0, 1, 0) of one in range", trio.known(0, 1, 0), 10);
@@ -444,6 +454,7 @@ public final class StepEdgeTest {
         Checks.due("map(1, 0, 1) two frames later", x.map(1, 0, 1), 0);
         Checks.due("map(1, 0, 0) two frames later", x.map(1, 0, 0), -1);
         Checks.due("map(1, 2, 0) two frames later", x.map(1, 2, 0), -1);
+        Checks.due("ship(1, 7) two frames later", x.ship(1, 7), 0);
         Checks.due("known(1, 0, 0) stays", x.known(1, 0, 0), 0);
         Checks.steps(x, 12);
         Checks.due("map(1, 0, 1) is never below 0", x.map(1, 0, 1), 0);
@@ -621,6 +632,40 @@ public final class StepEdgeTest {
         }
     }
 
+    private static void leftByAnotherDraw() {
+        Checks.holds("Terms 2", "LEFT is 1 and, by another DRAW, the SEED modulo keeps.");
+        for (int keeps = 1; keeps <= 7; keeps++) {
+            // The least and the greatest rest; odd and even seeds take turns, so the slot is odd where the third seed is.
+            for (int rest : new int[] {0, keeps - 1}) {
+                int slot = keeps % 2 == 0 ? 2 + rest % 2 : 3;
+                int draw = Seeds.drawBy(new int[] {6, 1, keeps}, slot, 0, rest);
+                SlotFleet x = Checks.ran("slots 6;wide 0;keeps " + keeps + ";draw " + draw + ";ship a at 0 0;", 7);
+                Checks.due("keeps " + keeps + ", rest " + rest + ": own(0, 0, 1)", x.own(0, 0, 1), 1 + rest);
+            }
+        }
+    }
+
+    private static void shipByShip() {
+        Checks.holds("Terms 2", "Then each SHIP that is ON and OWNS this SLOT from this FRAME or an earlier one on REPORTS, SHIP by SHIP");
+        // Both in one slot with 1 left: a's new LEFT is by the seventh seed, its fading by the eighth, b's LEFT by the ninth.
+        int draw = 0;
+        for (int d = 999; d >= 0; d--) {
+            boolean together = Seeds.after(d, 1) % 7 == Seeds.after(d, 4) % 7 && Seeds.after(d, 3) % 3 == 0 && Seeds.after(d, 6) % 3 == 0;
+            if (together && Seeds.after(d, 7) % 3 != Seeds.after(d, 9) % 3) draw = d;
+        }
+        int slot = Seeds.after(draw, 1) % 7;
+        SlotFleet x = Checks.ran("slots 7;wide 0;keeps 3;draw " + draw + ";ship a at 0 0;ship b at 0 0;", 7 + slot);
+        Checks.due("step()", x.step(), 3);
+        Checks.due("own(0, 0, 1)", x.own(0, 0, 1), 1 + Seeds.after(draw, 7) % 3);
+        Checks.due("own(1, 0, 1)", x.own(1, 0, 1), 1 + Seeds.after(draw, 9) % 3);
+        Checks.due("about(5)", x.about(5), Seeds.after(draw, 10));
+        // One that is switched off just ahead of its slot does not report.
+        SlotFleet y = Checks.ran(Ready.TRIO, 8);
+        Checks.due("next(2)", y.next(2), 1);
+        y.turn(2);
+        Checks.due("step()", y.step(), 0);
+    }
+
     private static void leftIsOneLess() {
         Checks.holds("Terms 2", "LEFT of it becomes 1 less; if it is 0, there is a CHOICE round this SLOT");
         int draw = Seeds.drawBy(new int[] {6, 3, 7}, 3, 1, 3);
@@ -740,6 +785,9 @@ public final class StepEdgeTest {
     }
 
     private static void slotBehindTheLastOne() {
+        Checks.holds("Terms 2", "FRAMES (0 at first) have SLOTS (0 ..).");
+        Checks.due("about(3) at first", Checks.told(Ready.TRIO).about(3), 0);
+        Checks.due("about(4) at first", Checks.told(Ready.TRIO).about(4), 0);
         Checks.holds("Terms 2", "Then the next SLOT is at hand, behind the last one SLOT 0 of the next FRAME.");
         for (int slots : new int[] {6, 30}) {
             SlotFleet x = Checks.told("slots " + slots + ";");
