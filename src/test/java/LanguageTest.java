@@ -1,75 +1,16 @@
-import java.lang.reflect.Field;
-import java.lang.reflect.Method;
-import java.lang.reflect.Modifier;
 import java.nio.file.Files;
 import java.nio.file.Path;
-import java.util.Set;
-import java.util.TreeSet;
-import java.util.regex.Matcher;
-import java.util.regex.Pattern;
 
-/** The rules of LANGUAGE.md that can be seen from the source, the face, and the room that a run takes. */
+/** The rules of LANGUAGE.md beside those that SourceTest looks at: the signs of the source, and the room that a run takes. */
 public final class LanguageTest {
     private static final Path SOURCE = Path.of("src/main/java/SlotFleet.java");
-    private static final Set<String> FACE = Set.of("feed", "end", "fleet", "fault", "ship", "own", "map", "known", "far",
-        "step", "steer", "turn", "undo", "redo", "candidates", "free", "reuse", "rate", "next", "will", "clashes",
-        "agree", "wrong", "hidden", "colours", "crowd", "parts", "twins", "meet", "lit", "taken", "fullest",
-        "strangers", "best", "reach", "law", "odds", "near", "lies", "seen", "untell", "later", "fits", "sure", "ask",
-        "image", "back", "about");
 
     private LanguageTest() { }
 
     public static void main(String[] args) throws Exception {
-        forbiddenWords();
-        face();
-        methodLengths();
+        for (byte sign : Files.readAllBytes(SOURCE)) Checks.due("a sign of the source is ASCII", sign >= 1, true);
         room();
         Checks.finish();
-    }
-
-    private static void forbiddenWords() throws Exception {
-        String code = Files.readString(SOURCE).replaceAll("(?s)/\\*.*?\\*/", "").replaceAll("//[^\n]*", "")
-            .replaceAll("\"[^\"\n]*\"", "\"\"");
-        String[] never = {"throw", "throws", "try", "catch", "synchronized", "assert", "import", "package", "Object",
-            "volatile", "protected", "hashCode", "equals", "println", "long", "double", "Exact", "->", "::"};
-        for (String word : never) {
-            boolean letters = Character.isLetter(word.charAt(0));
-            Matcher m = Pattern.compile(letters ? "\\b" + word + "\\b" : Pattern.quote(word)).matcher(code);
-            Checks.due("the source has " + word, m.find(), false);
-        }
-        for (char c : code.toCharArray()) if (c > 126) Checks.due("a sign beyond ASCII", c, 0);
-    }
-
-    private static void face() {
-        Set<String> names = new TreeSet<>();
-        for (Method m : SlotFleet.class.getDeclaredMethods()) {
-            if (Modifier.isPublic(m.getModifiers())) names.add(m.getName());
-            else Checks.due(m.getName() + " is private", Modifier.isPrivate(m.getModifiers()) || m.isSynthetic(), true);
-        }
-        Checks.due("the face", names.equals(new TreeSet<>(FACE)), true);
-        for (Field f : SlotFleet.class.getDeclaredFields()) {
-            boolean known = f.getName().equals("NONE") || Modifier.isPrivate(f.getModifiers());
-            Checks.due(f.getName() + " is private", known, true);
-        }
-        Checks.due("SlotFleet is final", Modifier.isFinal(SlotFleet.class.getModifiers()), true);
-        Checks.due("at most twelve classes", SlotFleet.class.getDeclaredClasses().length <= 11, true);
-        for (Class<?> inside : SlotFleet.class.getDeclaredClasses()) {
-            Checks.due(inside.getName() + " is static", Modifier.isStatic(inside.getModifiers()), true);
-            for (Method m : inside.getDeclaredMethods()) {
-                Checks.due("a method inside is named " + m.getName(), FACE.contains(m.getName()), false);
-                Checks.due(m.getName() + " takes at most seven", m.getParameterCount() <= 7, true);
-            }
-        }
-    }
-
-    private static void methodLengths() throws Exception {
-        int from = 0;
-        int number = 0;
-        for (String line : Files.readAllLines(SOURCE)) {
-            number++;
-            if (line.matches(" {4,8}[^ /*].*\\(.*\\) \\{")) from = number;
-            if (line.matches(" {4,8}\\}")) Checks.due("a method that ends in line " + number + " is short", number - from <= 60, true);
-        }
     }
 
     /** 512 calls of the dearest kinds may take a small part of the room alone. */
